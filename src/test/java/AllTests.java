@@ -1,0 +1,12 @@
+/** Runs every test of the project; the last line says how many passed and failed. */
+public final class AllTests {
+    private AllTests() {
+    }
+
+    public static void main(String[] args) {
+        ModelTests.all();
+        if (!Checks.end()) {
+            System.exit(1);
+        }
+    }
+}
