@@ -489,6 +489,27 @@ public final class LateIndexes {
         return level;
     }
 
+    private static boolean isAmong(int[] ids, int many, int id) {
+        for (int i = 0; i < many; i++) {
+            if (ids[i] == id) {
+                return true;
+            }
+        }
+        return false;
+    }
+
+    private static boolean areRuns(int from, int many, int runs) {
+        return from >= 0 && many >= 2 && from < runs && many <= runs - from;
+    }
+
+    /** The lesser of two STAMPS of which NONE is none. */
+    private static int lesser(int a, int b) {
+        if (a == NONE || b == NONE) {
+            return a == NONE ? b : a;
+        }
+        return a < b ? a : b;
+    }
+
     /** All that is, and so all that an image has. */
     private static final class Store {
         final Tape tape = new Tape();
@@ -631,8 +652,8 @@ public final class LateIndexes {
             if (!table.latest.isThere(key)) {
                 return GONE;
             }
-            int place = 4 * column;
-            return table.latest.rows[key] & ~(15 << place) | number << place;
+            int shift = 4 * column;
+            return table.latest.rows[key] & ~(15 << shift) | number << shift;
         }
 
         int loaded(int x, int n) {
@@ -836,27 +857,6 @@ public final class LateIndexes {
             }
             return does;
         }
-    }
-
-    private static boolean isAmong(int[] ids, int many, int id) {
-        for (int i = 0; i < many; i++) {
-            if (ids[i] == id) {
-                return true;
-            }
-        }
-        return false;
-    }
-
-    private static boolean areRuns(int from, int many, int runs) {
-        return from >= 0 && many >= 2 && from < runs && many <= runs - from;
-    }
-
-    /** The lesser of two STAMPS of which NONE is none. */
-    private static int lesser(int a, int b) {
-        if (a == NONE || b == NONE) {
-            return a == NONE ? b : a;
-        }
-        return a < b ? a : b;
     }
 
     private static final class Tape {

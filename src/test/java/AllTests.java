@@ -4,6 +4,13 @@ public final class AllTests {
     }
 
     public static void main(String[] args) {
+        TextTests.all();
+        WriteTests.all();
+        RunTests.all();
+        IndexTests.all();
+        AskTests.all();
+        ImageTests.all();
+        RuleTests.all();
         ModelTests.all();
         if (!Checks.end()) {
             System.exit(1);
