@@ -319,7 +319,7 @@ public final class LateIndexes {
             return x.pile.told(what);
         }
         if (what >= 10 && what <= 12) {
-            return x.state == BUILT ? x.filled(what) : LACKING;
+            return x.state == BUILT ? x.toldOfValues(what) : LACKING;
         }
         return x.told(what, now.table.latest);
     }
@@ -679,7 +679,7 @@ public final class LateIndexes {
 
         private int drawn(int below) {
             seed = seed * 1103515245 + 12345;
-            return (seed >>> 16) % below;
+            return below > 0 ? (seed >>> 16) % below : 0;
         }
 
         void flushed() {
@@ -1720,7 +1720,7 @@ public final class LateIndexes {
         }
 
         /** UNUSED (10), CROWDED (11), and how many have that (12). */
-        int filled(int what) {
+        int toldOfValues(int what) {
             if (what == 10) {
                 int value = 0;
                 while (value < KEYS && another(value, NONE) != NONE) {
@@ -1808,8 +1808,9 @@ public final class LateIndexes {
         }
 
         void hold(int[] ids, int runs) {
-            System.arraycopy(ids, 0, holds, held, runs);
-            held += runs;
+            int more = Math.min(runs, holds.length - held);
+            System.arraycopy(ids, 0, holds, held, more);
+            held += more;
         }
     }
 

@@ -11,6 +11,7 @@ final class AskTests {
         Checks.test("promise 19: MEMORY first, then the newest RUN", AskTests::costOrder);
         Checks.test("promise 19: cost stays, and is none at first", AskTests::costStays);
         Checks.test("promise 20: both", AskTests::both);
+        Checks.test("promises 18 to 24: the first KEY and the last one", AskTests::firstAndLast);
         Checks.test("promise 20: both of what is none", AskTests::bothNone);
         Checks.test("promise 21: sum", AskTests::sum);
         Checks.test("promise 22: near", AskTests::near);
@@ -189,6 +190,24 @@ final class AskTests {
         Checks.same("one twice", x.both(0, 1, 0, 1, -1), 4);
         Checks.same("one twice, two VALUES", x.both(0, 1, 0, 2, -1), 0);
         Checks.same("a VALUE that none has", x.both(0, -1, 1, -1, -1), 0);
+    }
+
+    private static void firstAndLast() {
+        LateIndexes x = new LateIndexes();
+        Tape.define(x, "by a");
+        Tape.define(x, "by b");
+        x.put(31, 1, 2, 4, 0);
+        x.put(0, 1, 2, 3, 0);
+        keys(x, 0, 1, 1, 0, 31);
+        Checks.same("both", x.both(0, 1, 1, 2, 0), 0);
+        Checks.same("both", x.both(0, 1, 1, 2, 1), 31);
+        Checks.same("sum", x.sum(0, 1, 1, 2), 7);
+        Checks.same("near", x.near(1, 9), 0);
+        x.open(0, 1, 1);
+        Checks.same("next", x.next(0), 0);
+        Checks.same("next", x.next(0), 31);
+        x.remove(0);
+        Checks.same("near", x.near(1, 9), 31);
     }
 
     private static void bothNone() {

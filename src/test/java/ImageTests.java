@@ -11,6 +11,7 @@ final class ImageTests {
         Checks.test("promise 34: nothing of it stays", ImageTests::triedStays);
         Checks.test("promise 34: tried of what is none", ImageTests::triedNone);
         Checks.test("promises 35, 36: all that is", ImageTests::all36);
+        Checks.test("promises 35, 36: the tape, the FAULT, WHY, builds that CLASHED", ImageTests::small);
         Checks.test("promises 35, 36: three images, each as it was made last", ImageTests::three);
         Checks.test("promises 35, 36: no such image", ImageTests::none);
         Checks.test("promises 35, 36: images stay, and are not changed by what comes later", ImageTests::imagesStay);
@@ -156,6 +157,47 @@ final class ImageTests {
         Checks.same("build", x.build(3, 32), y.build(3, 32));
         Checks.same("close", x.close(1), y.close(1));
         Checks.same("all goes on as it would have", told(x).equals(told(y)), true);
+    }
+
+    private static void small() {
+        LateIndexes x = new LateIndexes();
+        x.put(1, 1, 0, 0, 0);
+        x.put(2, 1, 0, 0, 0);
+        Tape.define(x, "by 1 unique");
+        x.build(0, 32);
+        Tape.define(x, "by a+b+c+d+a");
+        Tape.put(x, "by 7*d");
+        x.set(0, 3);
+        x.set(1, 3);
+        x.image(0);
+        x.end(0);
+        Tape.put(x, "by 3+3+3+3");
+        x.define();
+        x.change(9, 9, 9);
+        x.change(9, 0, 0);
+        Tape.define(x, "by 1 unique");
+        x.build(1, 32);
+        x.set(0, 12);
+        x.set(1, 2);
+        x.ask(0, 0, 9, -1);
+        Checks.same("again", x.again(0), true);
+        Checks.same("FAULT", x.fault(0), 2);
+        Checks.same("place", x.fault(1), 11);
+        Checks.same("builds that CLASHED", x.count(12), 1);
+        Checks.same("REFUSED", x.count(11), 0);
+        int[] why = {2, 2, 0, 1, 1, 1};
+        for (int i = 0; i < why.length; i++) {
+            Checks.same("why", x.why(i / 2, i % 2), why[i]);
+        }
+        Checks.same("nothing was ASKED", x.cost(0), -1);
+        Checks.same("bytes", x.count(14), 6);
+        Checks.same("define", x.define(), 0);
+        Checks.same("value", x.value(0, 1, 2, 3, 4), 28);
+        x.put(3, 1, 0, 0, 0);
+        Checks.same("ROOM is 3", x.count(3), 1);
+        x.remove(4);
+        x.flush();
+        Checks.same("FAN is 3", x.count(3), 2);
     }
 
     private static void three() {

@@ -253,8 +253,17 @@ final class IndexTests {
         Checks.same("no such INDEX", x.drop(3), false);
         Checks.same("no such INDEX", x.drop(4), false);
         Checks.same("no such INDEX", x.drop(-1), false);
+        x.put(2, 5, 5, 0, 0);
         Checks.same("a new one", Tape.define(x, "by d"), 0);
         Checks.same("RUNS of the new one", x.index(0, 3), 0);
+        Checks.same("its ENTRIES", x.index(0, 4), 0);
+        x.put(3, 6, 6, 0, 0);
+        x.put(4, 6, 6, 0, 0);
+        x.drop(1);
+        Tape.define(x, "by c");
+        Checks.same("ENTRIES of one in place of one with a MEMORY", x.index(1, 4), 0);
+        Checks.same("RUNS", x.index(1, 3), 0);
+        Checks.same("BEGUN", x.index(1, 8), 4);
         Checks.same("VALUE", x.value(0, 1, 2, 3, 4), 4);
     }
 

@@ -147,6 +147,11 @@ final class ModelTests {
         }
     }
 
+    /** The VALUE of a KEY's ROW by an INDEX, so that more is found than would be by drawn ones. */
+    private int valueOf(int index, int key) {
+        return m.value(index, m.row(key, 0), m.row(key, 1), m.row(key, 2), m.row(key, 3));
+    }
+
     private int low() {
         return dice.nextInt(10) == 0 ? dice.nextInt() : dice.nextInt(60) - 5;
     }
@@ -226,8 +231,9 @@ final class ModelTests {
         } else if (kind < 83) {
             int j = near(4);
             int k = near(4) - 1;
-            int v = dice.nextInt(20) - 1;
-            int w = dice.nextInt(20) - 1;
+            int key = dice.nextInt(32);
+            int v = dice.nextInt(4) == 0 ? dice.nextInt(20) - 1 : valueOf(i, key);
+            int w = dice.nextInt(4) == 0 ? dice.nextInt(20) - 1 : valueOf(j, key);
             same(seed, told + " both", x.both(i, v, j, w, k), m.both(i, v, j, w, k));
         } else if (kind < 86) {
             same(seed, told + " open", x.open(i, low, high), m.open(i, low, high));

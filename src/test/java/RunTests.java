@@ -11,6 +11,7 @@ final class RunTests {
         Checks.test("promise 12: more than 20 RUNS of the TABLE and of an INDEX", RunTests::moreThanTwenty);
         Checks.test("promise 12: a RUN without VERSIONS is none", RunTests::mergedToNone);
         Checks.test("promise 13: merge of the TABLE", RunTests::mergeTable);
+        Checks.test("promise 13: merge of the TABLE lets what is GONE go", RunTests::mergeGoneKeys);
         Checks.test("promise 13: merge of an INDEX", RunTests::mergeIndex);
         Checks.test("promise 13: merge of an INDEX that MENDS", RunTests::mergeMends);
         Checks.test("promise 13: merge of what isn't there", RunTests::mergeNone);
@@ -175,6 +176,33 @@ final class RunTests {
         x.remove(1);
         Checks.same("merge", x.merge(0, 0, 2), 0);
         Checks.same("RUNS of the INDEX", x.index(0, 3), 0);
+    }
+
+    private static void mergeGoneKeys() {
+        LateIndexes x = new LateIndexes();
+        x.set(0, 12);
+        x.set(1, 4);
+        x.put(16, 0, 0, 0, 0);
+        x.remove(0);
+        x.remove(31);
+        x.flush();
+        x.remove(7);
+        x.put(0, 1, 1, 1, 1);
+        x.flush();
+        x.remove(31);
+        x.merge(-1, 0, 2);
+        Checks.same("VERSIONS", x.run(0, 0), 2);
+        Checks.same("the first KEY, written again", x.row(0, 4), 5);
+        Checks.same("the last KEY, GONE in MEMORY", x.row(31, 4), 6);
+        Checks.same("KEY", x.run(0, 11), 16);
+        x.remove(0);
+        x.flush();
+        x.put(1, 0, 0, 0, 0);
+        x.flush();
+        x.merge(-1, 0, 3);
+        Checks.same("the first KEY", x.row(0, 4), -1);
+        Checks.same("the last KEY", x.row(31, 4), -1);
+        Checks.same("VERSIONS", x.count(4), 2);
     }
 
     private static void mergeTable() {
@@ -505,6 +533,8 @@ final class RunTests {
         x.remove(2);
         x.remove(1);
         Checks.same("would, all being STALE", x.would(0, 0, 3), 0);
+        x.mend(0, false);
+        Checks.same("would, if it does not", x.would(0, 0, 3), 4);
         Checks.same("nothing is MERGED", x.index(0, 3), 3);
         Checks.same("of the TABLE", x.would(-1, 0, 2), -1);
         Checks.same("no such INDEX", x.would(1, 0, 2), -1);

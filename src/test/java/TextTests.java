@@ -220,6 +220,18 @@ final class TextTests {
         text("by a uniqued", 1, 5);
         text("by a mend", 1, 5);
         text("by a $ 100", 1, 5);
+        text("by az", 1, 3);
+        text("by za", 1, 3);
+        text("ty a", 1, 0);
+        text("by a xhere a<1", 1, 5);
+        text("by a where a<1 xnd b<1", 1, 15);
+        text("by a xnique", 1, 5);
+        text("by a xends", 1, 5);
+        text("by a where a;1", 1, 12);
+        text("by a/2", 1, 4);
+        text("by a:2", 1, 4);
+        text("by a`", 1, 4);
+        text("by a{", 1, 4);
     }
 
     private static void faultsTwo() {
