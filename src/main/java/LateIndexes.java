@@ -1610,7 +1610,6 @@ public final class LateIndexes {
             memory.size = 0;
             aside.size = 0;
             pile.runs = 0;
-            pile.starts[0] = 0;
             for (int key = 0; key < KEYS; key++) {
                 values[key] = table.latest.isThere(key) ? rule.valueOf(table.latest.rows[key]) : NONE;
             }

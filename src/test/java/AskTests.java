@@ -275,6 +275,7 @@ final class AskTests {
         Checks.same("CURSORS", x.count(9), 3);
         Checks.same("next of none", x.next(1), -1);
         x.close(1);
+        x.next(0);
         x.close(0);
         Checks.same("CURSORS", x.count(9), 1);
         Checks.same("the least that is free", x.open(0, 8, 8), 0);
@@ -328,6 +329,9 @@ final class AskTests {
         x.next(1);
         Checks.same("close of one that went on", x.close(1), 3);
         Checks.same("CURSORS", x.count(9), 0);
+        x.open(0, 0, 15);
+        Checks.same("one opened in its place starts anew", x.next(0), 3);
+        Checks.same("close", x.close(0), 4);
     }
 
     private static void leftOver() {

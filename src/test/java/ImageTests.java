@@ -12,6 +12,7 @@ final class ImageTests {
         Checks.test("promise 34: tried of what is none", ImageTests::triedNone);
         Checks.test("promises 35, 36: all that is", ImageTests::all36);
         Checks.test("promises 35, 36: the tape, the FAULT, WHY, builds that CLASHED", ImageTests::small);
+        Checks.test("promises 35, 36: CURSORS and what they HOLD", ImageTests::cursors);
         Checks.test("promises 35, 36: three images, each as it was made last", ImageTests::three);
         Checks.test("promises 35, 36: no such image", ImageTests::none);
         Checks.test("promises 35, 36: images stay, and are not changed by what comes later", ImageTests::imagesStay);
@@ -198,6 +199,34 @@ final class ImageTests {
         x.remove(4);
         x.flush();
         Checks.same("FAN is 3", x.count(3), 2);
+    }
+
+    private static void cursors() {
+        LateIndexes x = new LateIndexes();
+        x.set(1, 4);
+        Tape.define(x, "by a");
+        for (int key = 0; key < 3; key++) {
+            x.put(key, 9 - key, 0, 0, 0);
+            x.flush();
+        }
+        x.open(0, 0, 8);
+        Checks.same("next", x.next(0), 2);
+        x.image(2);
+        x.close(0);
+        x.merge(-1, 0, 2);
+        x.repair(0);
+        x.open(0, 9, 9);
+        x.open(0, 0, 9);
+        Checks.same("LEFT OVER", x.count(8), 0);
+        Checks.same("again", x.again(2), true);
+        Checks.same("CURSORS", x.count(9), 1);
+        Checks.same("LEFT OVER", x.count(8), 0);
+        Checks.same("next", x.next(0), 1);
+        Checks.same("none is left", x.next(0), -1);
+        x.merge(-1, 0, 2);
+        Checks.same("LEFT OVER", x.count(8), 2);
+        x.repair(0);
+        Checks.same("LEFT OVER", x.count(8), 5);
     }
 
     private static void three() {

@@ -9,10 +9,13 @@ final class ModelTests {
     private final LateIndexes x = new LateIndexes();
     private final Model m = new Model();
     private final boolean wild;
+    /** What comes more often: 0 nothing, 1 FLUSHES and MERGES of few RUNS, 2 LOADS. */
+    private final int mode;
 
     private ModelTests(long seed) {
         dice = new Random(seed);
         wild = dice.nextInt(4) == 0;
+        mode = dice.nextInt(3);
     }
 
     static void all() {
@@ -163,7 +166,13 @@ final class ModelTests {
     private void call(int seed, int n) {
         String told = "call " + n;
         int kind = dice.nextInt(100);
-        if (kind < 22) {
+        if (dice.nextInt(3) > 0 && mode == 1) {
+            tall(seed, told);
+        } else if (dice.nextInt(3) > 0 && mode == 2) {
+            int s = dice.nextInt();
+            int many = 1 + dice.nextInt(20);
+            same(seed, told + " load", x.load(s, many), m.load(s, many));
+        } else if (kind < 22) {
             int k = near(32);
             int a = near(16);
             int b = near(16);
@@ -212,6 +221,24 @@ final class ModelTests {
             same(seed, told + " mend", x.mend(i, is), m.mend(i, is));
         } else {
             look(seed, told, kind);
+        }
+    }
+
+    /** Leaves RUNS whose LEVELS are not in order, so that there come to be many. */
+    private void tall(int seed, String told) {
+        if (m.count(3) < 5 && x.set(1, 4)) {
+            m.set(1, 4);
+        }
+        int k = dice.nextInt(32);
+        int a = dice.nextInt(16);
+        same(seed, told + " put", x.put(k, a, a, k / 2, 0), m.put(k, a, a, k / 2, 0));
+        same(seed, told + " flush", x.flush(), m.flush());
+        for (int index = -1; index < 4; index++) {
+            boolean isLow = index < 0 ? m.run(0, 1) == 0 && m.run(1, 1) == 0 && m.run(2, 1) == 0
+                    : m.index(index, 60) == 0 && m.index(index, 61) == 0 && m.index(index, 62) == 0;
+            if (isLow || dice.nextInt(60) == 0) {
+                same(seed, told + " merge", x.merge(index, 0, 2), m.merge(index, 0, 2));
+            }
         }
     }
 

@@ -86,6 +86,8 @@ final class RuleTests {
             Checks.same("fields of " + c, fields <= 20, true);
             for (Method m : c.getDeclaredMethods()) {
                 Checks.same("parameters of " + m, m.getParameterCount() <= 7, true);
+                boolean bears = Arrays.stream(FACE).anyMatch(f -> f.contains(" " + m.getName() + "("));
+                Checks.same(m + " bears a name of the face", bears, false);
             }
         }
     }
