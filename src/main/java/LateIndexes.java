@@ -368,16 +368,17 @@ public final class LateIndexes {
     }
 
     public int tried(int seed, int n, int what) {
-        Index x = now.find(what >= 30 ? what - 30 : what - 20);
-        if (!isLoad(n) || what < 0 || what > 13 && x == null) {
+        boolean isCount = what >= 0 && what <= 13;
+        int index = what >= 30 ? what - 30 : what - 20;
+        if (!isLoad(n) || !isCount && now.find(index) == null) {
             return NONE;
         }
         spare.copy(now);
         spare.loaded(seed, n);
-        if (what <= 13) {
+        if (isCount) {
             return spare.counted(what, trial);
         }
-        x = spare.find(what >= 30 ? what - 30 : what - 20);
+        Index x = spare.find(index);
         if (x == null) {
             return NONE;
         }
