@@ -4,6 +4,7 @@ public final class AllTests {
     }
 
     public static void main(String[] args) {
+        Edges.all();
         TextTests.all();
         WriteTests.all();
         RunTests.all();
