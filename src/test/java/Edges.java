@@ -44,6 +44,11 @@ final class Edges {
         quote("promise " + number, "## Promise " + number + ":", sentence, calls);
     }
 
+    /** A test of a sentence that stands ahead of all headings of promises. */
+    static void opening(int promise, String sentence, String calls) {
+        quote("promise " + promise + " (What it is)", "## What it is", sentence, calls);
+    }
+
     /** A test of a sentence that stands under Terms, by what a promise has of it. */
     static void terms(int number, int promise, String sentence, String calls) {
         String told = "promise " + promise + " (Terms, " + number + ")";

@@ -399,11 +399,12 @@ final class EdgesOfAsked {
             open(0, 3, 3) = 0
             open(0, 4, 4) = 1
             open(0, 3, 3) = 2
-            next(2); next(2)
-            close(0..2) = 32 0 30
+            next(2); next(2); next(0)
+            close(0..2) = 31 0 30
             count(9) = 0
             open(0, 3, 3) = 0
             next(0) = 0
+            close(0) = 31
             """);
         Edges.promise(25, "NONE: there is none such.", """
             close(-1..3|MIN|MAX) = -1
@@ -440,6 +441,37 @@ final class EdgesOfAsked {
             count(8) = 4
             close(0) = 0
             count(8) = 0
+            """);
+        Edges.terms(3, 26, "A CURSOR (at most 3, numbers 0 .. 2) is opened over what would be ASKED; it goes along that, as "
+            + "it was then, whatever is written, KEY by KEY. It HOLDS the RUNS of the TABLE and of the INDEX", """
+            calm
+            define by a = 0
+            lay 1 1
+            open(0, 9, 9) = 0
+            lay 2 2
+            open(0, 9, 9) = 1
+            lay 3 3
+            merge(NONE, 0, 2) = 2
+            count(8) = 1
+            merge(0, 0, 2) = 2
+            count(8) = 2
+            close(1) = 0
+            count(8) = 0
+            open(0, 9, 9) = 1
+            lay 4 4
+            merge(NONE, 1, 2) = 2
+            count(8) = 2
+            merge(0, 1, 2) = 2
+            count(8) = 4
+            new
+            define by a = 0
+            twenty
+            open(0, 99, 99) = 0
+            merge(NONE, 0, 19) = 2
+            merge(0, 1, 19) = 2
+            count(8) = 38
+            merge(NONE|0, 0, 2) = 1
+            count(8) = 40
             """);
         Edges.terms(3, 26, "LEFT OVER: RUNS that a CURSOR HOLDS and that are no more", """
             calm

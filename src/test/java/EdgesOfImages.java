@@ -153,10 +153,16 @@ final class EdgesOfImages {
             calm
             define by a = 0
             lay 1 5
-            lay 2 6
-            put(3, 7, 0, 0, 0) = 3
+            put(1, 6, 0, 0, 0) = 2
+            put(2, 6, 0, 0, 0) = 3
+            flush() = 1
+            put(3, 7, 0, 0, 0) = 4
+            put(2, 6, 0, 0, 0) = 5
+            put(4, 5|9, 0, 0, 0) = 6 7
             change(9, 0, 0) = -1
+            image(1) = 1
             ask(0, 5, 6, 0) = 1
+            cost(0..3) = 5 1 2 3
             open(0, 5, 7) = 0
             next(0) = 1
             define by a+b+c+d+a = -1
@@ -166,19 +172,18 @@ final class EdgesOfImages {
             close(0) = 1
             define by b where = -1
             text by 9
-            put(0|1, 16, 0, 0, 0) = -1
             change(8, 0, 0) = -1
             ask(0, 0, 0, NONE) = 0
             merge(NONE|0, 0, 2) = 1
-            repair(0) = 0
-            open(0, 5, 5) = 0
+            repair(0) = 2
+            open(0, 7, 9) = 0
             open(0, 6, 6) = 1
             again(0) = 1
             fault(0..1) = 2 11
             count(14) = 6
             why(0, 0..1) = 1 9
             count(8|9|11) = 0 1 1
-            cost(0..3) = 2 0 0 2
+            cost(0..3) = 5 1 2 3
             next(0) = 2
             next(0) = 3
             next(0|1) = -1
@@ -186,6 +191,10 @@ final class EdgesOfImages {
             count(8) = 4
             define() = 1
             value(1, 1, 2, 3, 4) = 28
+            again(1) = 1
+            cost(0..3) = -1
+            fault(0..1) = 0 -1
+            count(9|14) = 0
             """);
         Edges.promise(35, "is all that is", """
             set(0, 3) = 1
@@ -194,7 +203,7 @@ final class EdgesOfImages {
             define by 1 unique = 0
             build(0, 32) = -2
             define by a = 0
-            define by b mends = 1
+            define by b where a<9 mends = 1
             build(0, 2) = 30
             image(2) = 1
             set(0, 12) = 1
@@ -202,25 +211,65 @@ final class EdgesOfImages {
             mend(1, 0) = 1
             mend(0, 1) = 1
             build(0, 30) = 0
+            lay 4 4
             drop(1) = 1
             define by c unique = 1
             define by 1 unique = 2
             build(2, 32) = -2
-            lay 4 4
             lay 5 5
             again(2) = 1
-            count(10|12) = 3 1
+            count(2|10|12) = 2 3 1
             index(0..1, 0) = 1
             index(0..1, 1) = 0
             index(0..1, 2) = 0 1
-            index(0, 7|9|3|8) = 30 1 0 2
-            value(1, 0, 9, 0, 0) = 9
+            index(0..1, 3) = 0
+            index(0..1, 7|9|8) = 30 1 2 32 0 2
+            value(1, 8|9, 9, 0, 0) = 9 -1
             put(7, 7, 0, 0, 0) = 3
             count(3) = 1
             lay 8 8
             count(3) = 2
             lay 9 9
             count(3) = 1
+            """);
+        Edges.promise(35, "all that is (the tape,", """
+            calm
+            put(20|1, 9, 0, 0, 0) = 1 2
+            define by a = 0
+            lay 2 3
+            lay 3 1
+            put(4, 4, 0, 0, 0) = 5
+            flush() = 1
+            merge(NONE, 1, 2) = 2
+            merge(0, 0, 2) = 2
+            build(0, 16) = 16
+            put(5|4, 2, 0, 0, 0) = 6 7
+            image(0) = 1
+            put(5..9, 8, 0, 0, 0)
+            build(0, 16) = 0
+            repair(0) = 2
+            merge(NONE|0, 0, 2) = 1 2
+            lay 31 1
+            again(0) = 1
+            count(0..6) = 7 2 2 2 5 6 0
+            row(1..5, 0) = 9 3 1 2 2
+            row(1..5, 4) = 2 3 4 7 6
+            run(0..1, 0) = 1 4
+            run(0..1, 1) = 0 1
+            run(0..1, 2) = 5 1
+            run(0..1, 3) = 5 4
+            run(0..1, 10) = 4 1
+            index(0, 3|4|9) = 2 5 4
+            index(0, 20..21) = 2 1
+            index(0, 60..61) = 1 0
+            index(0, 100..101) = 4 3
+            entry(0, NONE, 0..1, 0..2) = 2 4 7 2 5 6
+            entry(0, 0, 0..1, 0..2) = 1 3 4 4 4 5
+            entry(0, 1, 0, 0..2) = 3 2 3
+            build(0, 16) = 0
+            index(0, 3|4) = 3 10
+            entry(0, 2, 0..4, 0) = 1 3 4 9 9
+            entry(0, 2, 0..4, 1) = 3 2 4 1 20
             """);
     }
 }

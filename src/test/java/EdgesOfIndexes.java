@@ -369,6 +369,15 @@ final class EdgesOfIndexes {
             index(0, 4..6) = 9 4 5
             repair(0) = 2
             index(0, 4..6) = 7 2 3
+            new
+            calm
+            put(1, 5, 0, 0, 0) = 1
+            define by a = 0
+            put(0, 3, 0, 0, 0) = 2
+            build(0, 32) = 0
+            index(0, 4..6) = 3 0 1
+            put(1, 5, 0, 0, 0) = 3
+            index(0, 4..6) = 4 1 2
             """);
     }
 
@@ -407,6 +416,12 @@ final class EdgesOfIndexes {
             calm
             define by a where b=0 = 0
             index(0, 11..12) = -1 0
+            put(0, 6, 0, 0, 0)
+            index(0, 11..12) = 6 1
+            put(31, 6, 0, 0, 0)
+            index(0, 11..12) = 6 2
+            remove(0|31)
+            flush() = 1
             put(1, 4, 0, 0, 0)
             index(0, 11..12) = 4 1
             put(2, 2, 0, 0, 0)
@@ -491,6 +506,19 @@ final class EdgesOfIndexes {
             entry(0, NONE..0, 0, -1|5|MIN|MAX) = -2
             drop(0) = 1
             entry(0, NONE..0, 0, 0) = -2
+            new
+            calm
+            define by a = 0
+            lay 1 1
+            put(2, 2, 0, 0, 0)
+            put(3, 3, 0, 0, 0)
+            flush() = 1
+            put(1|3, 9, 0, 0, 0)
+            repair(0) = 2
+            entry(0, 0, 0..1, 0) = 2 -2
+            entry(0, 1, 0, 0) = -2
+            flush() = 1
+            entry(0, NONE, 0, 0) = -2
             """);
         Edges.terms(1, 29, "ENTRIES stand by VALUE, then by KEY, then by STAMP.", """
             calm
@@ -511,6 +539,16 @@ final class EdgesOfIndexes {
             merge(0, 0, 2) = 1
             entry(0, 0, 0..6, 0) = 3 4 4 5 5 5 15
             entry(0, 0, 0..6, 1) = 9 0 31 1 2 3 0
+            new
+            calm
+            define by a = 0
+            lay 1 1
+            lay 2 9
+            merge(0, 0, 2) = 1
+            entry(0, 0, 0..1, 0) = 1 9
+            lay 3 0
+            merge(0, 0, 2) = 1
+            entry(0, 0, 0..2, 0) = 0 1 9
             """);
     }
 
@@ -552,6 +590,19 @@ final class EdgesOfIndexes {
             entry(0, 0..2, 0, 4) = 2
             merge(NONE, 0, 3) = 1
             entry(0, 0..2, 0, 4) = 2
+            """);
+        Edges.terms(3, 29, "MEMORY of the TABLE is looked into, then its RUNS, the newest one first,", """
+            calm
+            define by a = 0
+            lay 1 1
+            lay 9 1
+            lay 17 1
+            entry(0, 2, 0, 4) = 3
+            merge(NONE, 0, 2) = 2
+            entry(0, 2, 0, 4) = 2
+            entry(0, 1, 0, 4) = 2
+            merge(NONE, 0, 2) = 1
+            entry(0, 0..2, 0, 4) = 1 2 2
             """);
         Edges.terms(3, 29, "and have the KEY, modulo 8, in the FILTER, up to the first that has a VERSION of the KEY:", """
             calm

@@ -375,6 +375,20 @@ final class EdgesOfRuns {
             merge(NONE, 0, 2) = 1
             row(1|2, 4) = 5 6
             count(2|6) = 1 0
+            new
+            calm
+            remove(1..3)
+            flush() = 1
+            remove(4) = 4
+            flush() = 1
+            put(2, 7, 0, 0, 0) = 5
+            flush() = 1
+            put(1, 8, 0, 0, 0) = 6
+            remove(3) = 7
+            merge(NONE, 1, 2) = 1
+            row(1..4, 4) = 6 5 7 -1
+            row(1..3, 0) = 8 7 -1
+            count(5|6) = 2 0
             """);
     }
 
@@ -458,6 +472,27 @@ final class EdgesOfRuns {
             lay 3 3
             merge(0, 0, 2) = 2
             index(0, 100..101) = 6 6
+            new
+            calm
+            define by a = 0
+            lay 1 5
+            lay 1 5
+            lay 2 3
+            merge(0, 0, 2) = 2
+            index(0, 20..21) = 2 1
+            entry(0, 0, 0..1, 2) = 3 2
+            merge(0, 0, 2) = 1
+            entry(0, 0, 0..1, 2) = 3 2
+            new
+            calm
+            remove(9) = 1
+            define by a = 0
+            lay 1 1
+            put(1, 1, 1, 0, 0) = 3
+            build(0, 32) = 0
+            merge(0, 0, 2) = 1
+            index(0, 20|4) = 1 2
+            entry(0, 0, 0, 0..2) = 1 1 3
             """);
         Edges.terms(2, 13, "but if the INDEX MENDS, STALE ones go, and REPAIRED is the STAMP.", """
             calm
@@ -534,6 +569,20 @@ final class EdgesOfRuns {
             index(0, 3|60) = 1 1
             repair(0) = 1
             index(0, 0|3|60|100|8) = 1 1 1 3 1
+            """);
+        Edges.terms(2, 14, "A RUN without VERSIONS, ENTRIES is none.", """
+            calm
+            define by a = 0
+            lay 1 1
+            put(2, 2, 0, 0, 0) = 2
+            put(3, 3, 0, 0, 0) = 3
+            flush() = 1
+            put(1|3, 9, 0, 0, 0) = 4 5
+            repair(0) = 2
+            index(0, 3..6|13|20|21) = 1 3 0 0 -1 1 -2
+            entry(0, 0..1, 0, 0) = 2 -2
+            ask(0, 0, 15, NONE) = 3
+            cost(0..3) = 3 0 0 3
             """);
         Edges.terms(2, 14, "An ENTRY is STALE, if LATEST of its KEY is none, or has another STAMP.", """
             calm

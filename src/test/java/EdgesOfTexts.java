@@ -29,6 +29,20 @@ final class EdgesOfTexts {
             define() = -1
             fault(1) = 0
             """);
+        Edges.opening(1, "An object is used for at most 512 calls after it has been made;", """
+            set(0, 12) = 1
+            feed(0x62792031, 0x20202020, 0x20202020, 0x20202020, 0x20202020) = 20
+            define() = 0
+            put(0..31, 0..14, 0, 0, 0)
+            remove(4..31)
+            count(0) = 508
+            new
+            image(0) = 1
+            put(0..31, 0..14, 0, 0, 0)
+            image(0..2) = 1
+            remove(4..30)
+            count(0) = 507
+            """);
         Edges.terms(2, 1, "ROOM is 2 .. 12, 4 at first:", """
             put(0..2, 0, 0, 0, 0) = 1 2 3
             count(1|3) = 3 0
@@ -127,6 +141,18 @@ final class EdgesOfTexts {
             count(14) = 200
             define() = -1
             fault(1) = 200
+            feed(0x62792b2b, 0x2b2b2b2b, 0x2b2b2b2b, 0x2b2b2b2b, 0x2b2b2b2b) = 20
+            feed(0x2b2b2b2b|0x2b2b2b2b|0x2b2b2b2b, 0x2b2b2b2b, 0x2b2b2b2b, 0x2b2b2b2b, 0x2b2b2b2b) = 40 60 80
+            feed(0x2b2b2b2b|0x2b2b2b2b|0x2b2b2b2b, 0x2b2b2b2b, 0x2b2b2b2b, 0x2b2b2b2b, 0x2b2b2b2b) = 100 120 140
+            feed(0x2b2b2b2b|0x2b2b2b2b|0x2b2b2b2b, 0x2b2b2b2b, 0x2b2b2b2b, 0x2b2b2b2b, 0x2b2b2b2b) = 160 180 200
+            define() = -1
+            fault(1) = 2
+            feed(0x2b2b2b2b, 0x2b2b2b2b, 0x2b2b2b2b, 0x2b2b2b2b, 0x2b2b2b2b) = 20
+            feed(0x2b2b2b2b|0x2b2b2b2b|0x2b2b2b2b, 0x2b2b2b2b, 0x2b2b2b2b, 0x2b2b2b2b, 0x2b2b2b2b) = 40 60 80
+            feed(0x2b2b2b2b|0x2b2b2b2b|0x2b2b2b2b, 0x2b2b2b2b, 0x2b2b2b2b, 0x2b2b2b2b, 0x2b2b2b2b) = 100 120 140
+            feed(0x2b2b2b2b|0x2b2b2b2b|0x2b2b2b2b, 0x2b2b2b2b, 0x2b2b2b2b, 0x2b2b2b2b, 0x2b2b2b2b) = 160 180 200
+            define() = -1
+            fault(1) = 0
             """);
         Edges.promise(3, "The tape has its first n bytes alone: n.", """
             text by a+b+c
@@ -354,6 +380,8 @@ final class EdgesOfTexts {
             faults by a<1 = 1 4
             faults by a where b = 1 12
             faults by a where b and c<1 = 1 13
+            faults by a where b c = 1 13
+            faults by a where b 1 unique = 1 13
             faults by a where <1 = 1 11
             faults by a where b< = 1 13
             faults by a where b<1<2 = 1 14
@@ -380,6 +408,16 @@ final class EdgesOfTexts {
             faults by a where b<1 $ = 1 15
             faults by a mends $ = 1 11
             faults by 99 * * = 1 8
+            faults ty a = 1 0
+            faults bz a = 1 0
+            faults by a xhere b<1 = 1 5
+            faults by a wherx b<1 = 1 5
+            faults by a where b<1 xnd c<1 = 1 15
+            faults by a where b<1 anx c<1 = 1 15
+            faults by a xnique = 1 5
+            faults by a uniqux = 1 5
+            faults by a xends = 1 5
+            faults by a mendx = 1 5
             faults by wher = 1 3
             faults by a wher b<1 = 1 5
             faults by a where b<1 an c<1 = 1 15
@@ -510,6 +548,18 @@ final class EdgesOfTexts {
     }
 
     private static void values() {
+        Edges.terms(1, 30, "or not, by its ATOMS;", """
+            define by a+9*b where b<1 and c<1 and d<1 unique mends = 0
+            value(0, 7, 5, 5, 5) = -1
+            drop(0) = 1
+            define by a where b<1 and c<1 and = -1
+            define by 3*a = 0
+            value(0, 7, 5, 5, 5) = 21
+            index(0, 1..2) = 0
+            drop(0) = 1
+            define by b where c<9 = 0
+            value(0, 7, 5, 8..9, 5) = 5 -1
+            """);
         Edges.terms(1, 30, "It WANTS a ROW, if all ATOMS hold.", """
             define by a where b<c = 0
             define by a where b=c and c=d = 1

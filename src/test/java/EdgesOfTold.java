@@ -196,6 +196,18 @@ final class EdgesOfTold {
             lay 2 2
             build(0, 32) = 0
             would(0, 1, 2) = 2
+            new
+            calm
+            remove(9) = 1
+            define by a = 0
+            lay 1 1
+            lay 5 9
+            lay 1 1
+            build(0, 32) = 0
+            would(0, 0..2, 2) = 2 2 2
+            would(0, 0..1, 3) = 2
+            merge(0, 1, 2) = 3
+            index(0, 20..22) = 1 2 2
             """);
     }
 

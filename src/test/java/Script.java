@@ -117,7 +117,11 @@ final class Script {
     }
 
     private static long[] behind(String told) {
-        String numbers = told.substring(told.lastIndexOf("= ") + 2).strip();
+        int sign = told.lastIndexOf("= ");
+        if (sign < 0) {
+            throw new IllegalStateException("no answer is told: " + told);
+        }
+        String numbers = told.substring(sign + 2).strip();
         return Arrays.stream(numbers.split(" +")).mapToLong(Script::number).toArray();
     }
 
