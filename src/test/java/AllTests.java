@@ -12,6 +12,7 @@ public final class AllTests {
         AskTests.all();
         ImageTests.all();
         RuleTests.all();
+        ReadmeTests.all();
         ModelTests.all();
         if (!Checks.end()) {
             System.exit(1);

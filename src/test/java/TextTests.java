@@ -5,7 +5,6 @@ final class TextTests {
 
     static void all() {
         Checks.test("promise 1: a new object has nothing", TextTests::newObject);
-        Checks.test("promises 2, 4, 8, 18, 19: the example of README.md", TextTests::example);
         Checks.test("promise 1: ROOM is 4 and FAN is 2 at first", TextTests::newRoomAndFan);
         Checks.test("promise 2: feed, the highest byte first", TextTests::feedBytes);
         Checks.test("promise 2: feed, the tape full", TextTests::feedFull);
@@ -44,17 +43,6 @@ final class TextTests {
         Checks.same("fault", x.fault(0), 0);
         Checks.same("fault", x.fault(1), -1);
         Checks.same("NONE", LateIndexes.NONE, -1);
-    }
-
-    private static void example() {
-        LateIndexes x = new LateIndexes();
-        x.feed(0x62792061, 0x2b622077, 0x68657265, 0x20633c35, 0x20202020);
-        Checks.same("define", x.define(), 0);
-        Checks.same("put", x.put(7, 3, 4, 0, 0), 1);
-        Checks.same("put", x.put(9, 1, 1, 9, 0), 2);
-        Checks.same("how many", x.ask(0, 0, 10, LateIndexes.NONE), 1);
-        Checks.same("the first", x.ask(0, 0, 10, 0), 7);
-        Checks.same("LOOKS", x.cost(3), 1);
     }
 
     private static void newRoomAndFan() {
